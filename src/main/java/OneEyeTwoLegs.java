@@ -1074,7 +1074,7 @@ public final class OneEyeTwoLegs {
                         break;
                     default:
                         int right = pop();
-                        push(join(orders[at], pop(), right));
+                        push(held(join(orders[at], pop(), right)));
                         at++;
                         break;
                 }
@@ -1097,11 +1097,11 @@ public final class OneEyeTwoLegs {
             return waiting[height];
         }
 
-        private static int join(int order, int left, int right) {
+        private static long join(int order, long left, long right) {
             switch (order) {
-                case PLUS: return held((long) left + right);
-                case MINUS: return held((long) left - right);
-                case TIMES: return held((long) left * right);
+                case PLUS: return left + right;
+                case MINUS: return left - right;
+                case TIMES: return left * right;
                 case OVER: return right == 0 ? 0 : left / right;
                 case LESS: return left < right ? 1 : 0;
                 case LESS_OR_LIKE: return left <= right ? 1 : 0;
