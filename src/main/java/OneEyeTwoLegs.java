@@ -1258,11 +1258,12 @@ public final class OneEyeTwoLegs {
                         continue;
                     }
                     keep(row, slot, head, tap);
-                    if (isThere(row)) {
-                        return tapsToLatest();
-                    }
+                    // The last row ends it as spent even where it is there.
                     if (found >= MOST_FOUND) {
                         return SPENT;
+                    }
+                    if (isThere(row)) {
+                        return tapsToLatest();
                     }
                 }
             }

@@ -223,10 +223,10 @@ final class PlainModel {
                 List<Integer> then = new ArrayList<>();
                 for (int k = 0; k < habits.size(); k++) then.add(after(habits.get(k), poses.get(k), tap));
                 if (ways.containsKey(then)) continue;
+                if (ways.size() == 3000) return "spent";
                 String way = ways.get(poses) + tap;
                 ways.put(then, way);
                 if (isThere(then, cell)) return way;
-                if (ways.size() == 3001) return "spent";
                 queue.addLast(then);
             }
         }

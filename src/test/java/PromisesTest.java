@@ -359,14 +359,22 @@ public final class PromisesTest {
         due(14, "to a wall by many", x.fewest(13, 48, 24, NONE), SPENT);
         due(14, "from a wall", x.fewest(1, 96, 24, NONE), NONE);
         foundAs(3000, new OneEyeTwoLegs(2, 4), new String[] {MIRRORED, "does 4-tap;", "does if tap=0?4:tap end;"}, 26, 5, 8);
-        foundAs(3001, new OneEyeTwoLegs(3, 3), new String[] {"does tap+1;", "does 4-tap;", "does if tap<=1?1:tap end;"}, 16, 2, 7);
+        foundAs(3001, new OneEyeTwoLegs(3, 3), new String[] {"does tap+1;", "does 4-tap;", "does if tap<=1?1:tap end;"}, 16, 2, SPENT);
         foundAs(3002, new OneEyeTwoLegs(3, 3), new String[] {"does tap+1;", "does 4-tap;", "does if tap=0?4:tap end;"}, 30, 5, SPENT);
+        foundAs(3000, new OneEyeTwoLegs(5, 5), new String[] {"does tap+1;", "does x+tap;"}, 21, 17, 9);
+        foundAs(3001, new OneEyeTwoLegs(5, 5), new String[] {"does tap;", "does 3-y+tap;"}, 88, 6, SPENT);
+        foundAs(3001, new OneEyeTwoLegs(5, 5), new String[] {"does tap;", "does y+tap-1;"}, 10, 18, SPENT);
+        // 3000 rows of poses in all, none of which is there
+        foundAs(-1, new OneEyeTwoLegs(3, 5), new String[] {"does tap;", "does x+y-tap;"}, 8, 14, NONE);
+        foundAs(-1, new OneEyeTwoLegs(2, 3), new String[] {"does tap+1;", "does 3-y+tap;", "does x*tap;"}, 20, 0, NONE);
     }
 
     /** The first row of poses that is there would be the which-th that is found (counted by another program). */
     private static void foundAs(int which, OneEyeTwoLegs x, String[] texts, int pose, int cell, int want) {
         for (String text : texts) read(x, text);
-        due(14, "there as the " + which + "th", x.fewest(7, pose, cell, NONE), want);
+        int all = (1 << texts.length) - 1;
+        due(14, "there as the " + which + "th", x.fewest(all, pose, cell, NONE), want);
+        due(14, "no such tap, or spent, as the " + which + "th", x.fewest(all, pose, cell, 99), want == SPENT ? SPENT : NONE);
     }
 
     private static void tellingApart() {
