@@ -1,4 +1,6 @@
+import com.sun.management.ThreadMXBean;
 import java.io.IOException;
+import java.lang.management.ManagementFactory;
 import java.lang.reflect.Constructor;
 import java.lang.reflect.Field;
 import java.lang.reflect.Method;
@@ -113,8 +115,40 @@ public final class LanguageTest {
         }
     }
 
+    private static long bytesMade() {
+        return ((ThreadMXBean) ManagementFactory.getThreadMXBean()).getThreadAllocatedBytes(Thread.currentThread().getId());
+    }
+
+    /** The room of a run is some 7.3 million elements; no run of 512 calls, however dear, may come near it. */
+    private static void room() {
+        OneEyeTwoLegs x = new OneEyeTwoLegs(5, 5);
+        long before = bytesMade();
+        for (int k = 0; k < 4; k++) x.text();
+        for (int k = 0; k < 85; k++) {
+            x.chase(0, 0, 1, 99);
+            x.hunt(0, 99, 1, 0);
+            x.fewest(7, 0, 24, OneEyeTwoLegs.NONE);
+            x.tells(0, 1, 0, OneEyeTwoLegs.NONE);
+            x.wed(0, 0, 0);
+            x.crowd(24);
+        }
+        must(bytesMade() - before < 1000000, "rule 12: dear calls made " + (bytesMade() - before) + " bytes");
+        OneEyeTwoLegs y = new OneEyeTwoLegs(5, 5);
+        before = bytesMade();
+        for (int k = 0; k < 170; k++) {
+            y.feed(0x646f6573, 0x20782b79, 0x2b746170, 0x3b202020, 0x20202020);
+            y.text();
+            y.back();
+        }
+        must(bytesMade() - before < 1000000, "rule 12: texts made " + (bytesMade() - before) + " bytes");
+        before = bytesMade();
+        new OneEyeTwoLegs(5, 5).undo();
+        must(bytesMade() - before < 200000, "rule 12: an object has " + (bytesMade() - before) + " bytes");
+    }
+
     public static void main(String[] args) throws IOException {
         face();
+        room();
         classes();
         source();
         System.out.println(wrong == 0 ? "LanguageTest: the rules are kept" : "LanguageTest: " + wrong + " breaches");

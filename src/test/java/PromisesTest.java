@@ -1,51 +1,7 @@
 /** Each promise of the document by hand: ordinary inputs, edges and wrong inputs. */
-public final class PromisesTest {
-    private static final int NONE = OneEyeTwoLegs.NONE;
-    private static final int SPENT = OneEyeTwoLegs.SPENT;
-    private static final int MIN = Integer.MIN_VALUE;
-    private static final int MAX = Integer.MAX_VALUE;
+public final class PromisesTest extends Calls {
     // Turns to the other side than a carrier without any clause.
     private static final String MIRRORED = "does if tap=1?3:if tap=2?2:if tap=0?1:0 end end end;";
-    private static int wrong = 0;
-
-    private static void due(int promise, String what, long got, long want) {
-        if (got != want) {
-            wrong++;
-            System.out.println("promise " + promise + ": " + what + " answered " + got + ", due is " + want);
-        }
-    }
-
-    private static void due(int promise, String what, boolean got, boolean want) {
-        due(promise, what, got ? 1 : 0, want ? 1 : 0);
-    }
-
-    private static void feed(OneEyeTwoLegs x, String text) {
-        x.end(0);
-        for (int at = 0; at < text.length(); at += 20) {
-            int[] words = new int[5];
-            for (int k = 0; k < 20 && at + k < text.length(); k++) {
-                words[k / 4] |= text.charAt(at + k) << 24 - 8 * (k % 4);
-            }
-            x.feed(words[0], words[1], words[2], words[3], words[4]);
-        }
-        x.end(text.length());
-    }
-
-    private static int read(OneEyeTwoLegs x, String text) {
-        feed(x, text);
-        return x.text();
-    }
-
-    private static void row(OneEyeTwoLegs x, int... taps) {
-        x.row(NONE);
-        for (int tap : taps) x.row(tap);
-    }
-
-    private static String repeat(String what, int often) {
-        StringBuilder all = new StringBuilder();
-        for (int k = 0; k < often; k++) all.append(what);
-        return all.toString();
-    }
 
     private static void newObject() {
         int[][] sizes = {{3, 4, 3, 4}, {2, 5, 2, 5}, {1, 6, 2, 5}, {MIN, MAX, 2, 5}, {0, -1, 2, 2}};
@@ -358,23 +314,6 @@ public final class PromisesTest {
         due(14, "to a wall", x.fewest(1, 0, 24, NONE), NONE);
         due(14, "to a wall by many", x.fewest(13, 48, 24, NONE), SPENT);
         due(14, "from a wall", x.fewest(1, 96, 24, NONE), NONE);
-        foundAs(3000, new OneEyeTwoLegs(2, 4), new String[] {MIRRORED, "does 4-tap;", "does if tap=0?4:tap end;"}, 26, 5, 8);
-        foundAs(3001, new OneEyeTwoLegs(3, 3), new String[] {"does tap+1;", "does 4-tap;", "does if tap<=1?1:tap end;"}, 16, 2, SPENT);
-        foundAs(3002, new OneEyeTwoLegs(3, 3), new String[] {"does tap+1;", "does 4-tap;", "does if tap=0?4:tap end;"}, 30, 5, SPENT);
-        foundAs(3000, new OneEyeTwoLegs(5, 5), new String[] {"does tap+1;", "does x+tap;"}, 21, 17, 9);
-        foundAs(3001, new OneEyeTwoLegs(5, 5), new String[] {"does tap;", "does 3-y+tap;"}, 88, 6, SPENT);
-        foundAs(3001, new OneEyeTwoLegs(5, 5), new String[] {"does tap;", "does y+tap-1;"}, 10, 18, SPENT);
-        // 3000 rows of poses in all, none of which is there
-        foundAs(-1, new OneEyeTwoLegs(3, 5), new String[] {"does tap;", "does x+y-tap;"}, 8, 14, NONE);
-        foundAs(-1, new OneEyeTwoLegs(2, 3), new String[] {"does tap+1;", "does 3-y+tap;", "does x*tap;"}, 20, 0, NONE);
-    }
-
-    /** The first row of poses that is there would be the which-th that is found (counted by another program). */
-    private static void foundAs(int which, OneEyeTwoLegs x, String[] texts, int pose, int cell, int want) {
-        for (String text : texts) read(x, text);
-        int all = (1 << texts.length) - 1;
-        due(14, "there as the " + which + "th", x.fewest(all, pose, cell, NONE), want);
-        due(14, "no such tap, or spent, as the " + which + "th", x.fewest(all, pose, cell, 99), want == SPENT ? SPENT : NONE);
     }
 
     private static void tellingApart() {
@@ -719,7 +658,6 @@ public final class PromisesTest {
         chases();
         images();
         abouts();
-        System.out.println(wrong == 0 ? "PromisesTest: all answers are as due" : "PromisesTest: " + wrong + " answers are not as due");
-        if (wrong != 0) System.exit(1);
+        endOf("PromisesTest");
     }
 }
