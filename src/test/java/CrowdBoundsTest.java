@@ -309,6 +309,31 @@ public final class CrowdBoundsTest extends Calls {
         due("and back", y.chase(0, 99, 1, 0), 2 * 9 - 1);
     }
 
+    private static void aroundWalls() {
+        sentence(24, "A CHASE: in how many turns.");
+        OneEyeTwoLegs x = town("", STAYS, MUST_GO);
+        due("no wall yet", x.chase(0, 1, 1, 9), 3);
+        x.cell(1, 1);
+        // right, on, left, on, on, left, on
+        due("around a wall", x.chase(0, 1, 1, 9), 13);
+        due("to the right first", x.hunt(0, 1, 1, 9), 2);
+        due("the other way", x.chase(0, 11, 1, 0), 13);
+        due("to the left first", x.hunt(0, 11, 1, 0), 1);
+        due("he must go, into the wall", x.chase(2, 1, 1, 9), NONE);
+        due("the thief must go, into the wall", x.chase(1, 1, 2, 11), NONE);
+        due("below the wall", x.chase(2, 13, 2, 23), 2);
+        x.cell(1, 0);
+        due("no wall any more", x.chase(0, 1, 1, 9), 3);
+        OneEyeTwoLegs y = town(5, 5, "", STAYS, MUST_GO);
+        for (int p = 0; p < 20; p++) if (p % 5 == 1 || p % 5 == 3) y.cell(p, 1);
+        // four down, one turn, four along, one turn, four up
+        due("along the edges", y.chase(0, 2, 1, 4 * 4), 2 * 14 - 1);
+        due("on first", y.hunt(0, 2, 1, 4 * 4), 0);
+        due("in the middle", y.chase(0, 2, 1, 4 * 2), 2 * 12 - 1);
+        due("the thief comes down the middle", y.chase(1, 88, 2, 10), 8);
+        due("he comes to the walls, and stays", y.chase(1, 88, 2, 49), NONE);
+    }
+
     private static void neverCaught() {
         sentence(24, "NONE: never, and for others.");
         due("no text", town().chase(0, 0, 0, 0), NONE);
@@ -543,6 +568,7 @@ public final class CrowdBoundsTest extends Calls {
         turnsOfBoth();
         forAllThatTheThiefDoes();
         atTheEdgesOfTheTown();
+        aroundWalls();
         neverCaught();
         theLowestTap();
         noHunt();

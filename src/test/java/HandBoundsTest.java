@@ -556,6 +556,13 @@ public final class HandBoundsTest extends Calls {
         due("he turns", y.holds(), 1);
         y.seen(0, 1, 0);
         due("nobody does both", y.holds(), 0);
+        // what isn't seen asks for nothing, not even of the first pose at the first tap
+        OneEyeTwoLegs z = town("does 3;", "does 4;");
+        due("none seen", z.holds(), 3);
+        z.seen(23, 3, 20);
+        due("one seen, at the last pose", z.holds(), 1);
+        z.cell(0, 1);
+        due("the first cell is a wall", z.holds(), 1);
     }
 
     private static void seenInAWall() {

@@ -106,6 +106,24 @@ public final class TextBoundsTest extends Calls {
         due("the empty one", x.text(), 2);
     }
 
+    private static void nothingBehindTheFirstBytes() {
+        sentence(5, "The tape has its first n bytes alone: n.");
+        Object[][] cuts = {{"does tap;", 7, 1, 5}, {"does taps;", 8, 1, 8}, {"does 99999;", 9, 1, 9}, {"does 1;does", 8, 1, 7},
+            {"does 1;!", 7, 0, NONE}, {"fears 1<=2;", 8, 1, 8}, {"does 1;likes 1;", 7, 0, NONE}, {"does", 3, 1, 0}};
+        for (Object[] cut : cuts) {
+            OneEyeTwoLegs x = new OneEyeTwoLegs(2, 2);
+            feed(x, (String) cut[0]);
+            due("end", x.end((Integer) cut[1]), (Integer) cut[1]);
+            due("text of the first of \"" + cut[0] + "\"", x.text(), (Integer) cut[2] == 0 ? 0 : NONE);
+            due("its fault", x.fault(0), (Integer) cut[2]);
+            due("its place", x.fault(1), (Integer) cut[3]);
+        }
+        OneEyeTwoLegs x = new OneEyeTwoLegs(2, 2);
+        read(x, "does 3; fears 1=1;");
+        due("a shorter one behind a longer one", read(x, "does 4"), NONE);
+        due("its place", x.fault(1), 6);
+    }
+
     private static void noEndOfOthers() {
         sentence(5, "NONE, and nothing is done, if it has not so many, or n is below 0.");
         OneEyeTwoLegs x = new OneEyeTwoLegs(2, 2);
@@ -635,6 +653,7 @@ public final class TextBoundsTest extends Calls {
         highBytes();
         atMost300();
         firstBytesAlone();
+        nothingBehindTheFirstBytes();
         noEndOfOthers();
         tapeIsAText();
         faultsAreNoTexts();
